@@ -50,10 +50,6 @@ public final class SnoringWells {
     private static final int MOST = 1000000;
     private static final int[] NO_LAW = {};
 
-    private final byte[] tape = new byte[TAPE_BYTES];
-    private int taped = 0;
-    private int faultKind = 0;
-    private int faultPlace = NONE;
     private final Page page;
     private final Page[] images = new Page[IMAGES];
     private final Tray[] trays = new Tray[TRAYS];
@@ -67,42 +63,40 @@ public final class SnoringWells {
 
     public SnoringWells() {
         Hills empty = new Hills();
+        Land scratch = new Land(empty);
+        Noise shared = new Noise(scratch);
         page = new Page(empty);
-        ahead = new Land(empty);
         for (int i = 0; i < images.length; i++) {
             images[i] = new Page(empty);
         }
         for (int i = 0; i < trays.length; i++) {
             trays[i] = new Tray();
         }
-        reader = new Reader(tape, empty);
-        noise = new Noise(page.now);
-        deeds = new Deeds(noise);
-        plans = new Plans(noise, ahead);
+        ahead = scratch;
+        reader = new Reader(empty);
+        noise = shared;
+        deeds = new Deeds(shared);
+        plans = new Plans(shared, scratch);
     }
 
     // ---- the hills
 
     public int feed(int a, int b, int c, int d, int e) {
-        if (taped + FED_BYTES > TAPE_BYTES) {
+        if (reader.taped + FED_BYTES > TAPE_BYTES) {
             return NONE;
         }
-        appendInt(a);
-        appendInt(b);
-        appendInt(c);
-        appendInt(d);
-        appendInt(e);
-        return taped;
+        reader.append(a);
+        reader.append(b);
+        reader.append(c);
+        reader.append(d);
+        reader.append(e);
+        return reader.taped;
     }
 
     public int hills(int n) throws IllegalArgumentException {
-        needWithin(n, 0, taped);
-        taped = 0;
-        boolean good = reader.readText(n);
-        faultKind = reader.faultKind;
-        faultPlace = reader.faultPlace;
-        if (!good) {
-            return -10 - faultKind;
+        needWithin(n, 0, reader.taped);
+        if (!reader.readText(n)) {
+            return -10 - reader.faultKind;
         }
         page.beginWith(reader.draft);
         return reader.draft.lines;
@@ -110,9 +104,9 @@ public final class SnoringWells {
 
     public int fault(int what) {
         if (what == 0) {
-            return faultKind;
+            return reader.faultKind;
         }
-        return what == 1 ? faultPlace : NONE;
+        return what == 1 ? reader.faultPlace : NONE;
     }
 
     public int well(int w, int what) throws NoSuchElementException, IllegalArgumentException {
@@ -312,13 +306,13 @@ public final class SnoringWells {
         needWell(b);
         needUnlike(a, b);
         needNoise(n);
-        noise.over(page.now);
+        noise.lookAt(page.now);
         return has(noise.wokenAtOnce(a, n), b);
     }
 
     public int quietest(int w) throws NoSuchElementException {
         needWell(w);
-        noise.over(page.now);
+        noise.lookAt(page.now);
         for (int n = MAX_NOISE; n >= 1; n--) {
             if (Deeds.whyNotDraw(page.now, w, n) == 0 && noise.wokenAtOnce(w, n) == 0) {
                 return n;
@@ -416,7 +410,7 @@ public final class SnoringWells {
         needHouse(h);
         needWithin(n, 0, SOON);
         lookAhead(n);
-        noise.over(ahead);
+        noise.lookAt(ahead);
         return plans.quietWellNow(h);
     }
 
@@ -598,7 +592,7 @@ public final class SnoringWells {
             case 7:
                 return page.remembered;
             case 8:
-                return taped;
+                return reader.taped;
             case 9:
                 return now.hills.law.length > 0 ? 1 : 0;
             default:
@@ -607,13 +601,6 @@ public final class SnoringWells {
     }
 
     // ---- what the calls share
-
-    private void appendInt(int v) {
-        for (int shift = 24; shift >= 0 && taped >= 0 && taped < tape.length; shift -= 8) {
-            tape[taped] = (byte) (v >>> shift);
-            taped++;
-        }
-    }
 
     private boolean carryOutIfCan(long deed) {
         if (Deeds.whyNotTold(page.now, deed) != 0) {
@@ -741,35 +728,35 @@ public final class SnoringWells {
         }
 
         int roundOf(int w) {
-            return hasWell(w) ? round[w] : 2;
+            return w >= 0 && w < round.length ? round[w] : 0;
         }
 
         int upOf(int w) {
-            return hasWell(w) ? up[w] : 1;
+            return w >= 0 && w < up.length ? up[w] : 0;
         }
 
         int toldShiftOf(int w) {
-            return hasWell(w) ? shift[w] : 0;
+            return w >= 0 && w < shift.length ? shift[w] : 0;
         }
 
         int deepOf(int w) {
-            return hasWell(w) ? deep[w] : 0;
+            return w >= 0 && w < deep.length ? deep[w] : 0;
         }
 
         int toldWaterOf(int w) {
-            return hasWell(w) ? toldWater[w] : 0;
+            return w >= 0 && w < toldWater.length ? toldWater[w] : 0;
         }
 
         int besideOf(int w) {
-            return hasWell(w) ? beside[w] : 0;
+            return w >= 0 && w < beside.length ? beside[w] : 0;
         }
 
         int needOf(int h) {
-            return hasHouse(h) ? need[h] : 0;
+            return h >= 0 && h < need.length ? need[h] : 0;
         }
 
         int fromOf(int h) {
-            return hasHouse(h) ? from[h] : 0;
+            return h >= 0 && h < from.length ? from[h] : 0;
         }
 
         boolean everSleeps(int w) {
@@ -846,24 +833,23 @@ public final class SnoringWells {
         }
 
         int shiftOf(int w) {
-            return hills.hasWell(w) ? shift[w] : 0;
+            return w >= 0 && w < shift.length ? shift[w] : 0;
         }
 
         int waterOf(int w) {
-            return hills.hasWell(w) ? water[w] : 0;
-        }
-
-        int phaseIn(int w, int hoursOn) {
-            int round = hills.roundOf(w);
-            return round < 1 ? 0 : Math.floorMod(hour + hoursOn + shiftOf(w), round);
+            return w >= 0 && w < water.length ? water[w] : 0;
         }
 
         int phaseOf(int w) {
-            return phaseIn(w, 0);
+            if (w < 0 || w >= shift.length || w >= hills.round.length || hills.round[w] < 1) {
+                return 0;
+            }
+            return (hour + shift[w]) % hills.round[w];
         }
 
         boolean isAwakeIn(int w, int hoursOn) {
-            return phaseIn(w, hoursOn) < hills.upOf(w);
+            int round = hills.roundOf(w);
+            return round >= 1 && (hour + hoursOn + shiftOf(w)) % round < hills.upOf(w);
         }
 
         boolean isAwake(int w) {
@@ -877,7 +863,7 @@ public final class SnoringWells {
         int awakeBits() {
             int set = 0;
             for (int w = 0; w < hills.wells; w++) {
-                if (isAwake(w)) {
+                if (isAwakeIn(w, 0)) {
                     set |= 1 << w;
                 }
             }
@@ -885,7 +871,13 @@ public final class SnoringWells {
         }
 
         int asleepBits() {
-            return hills.allWells() & ~awakeBits();
+            int set = 0;
+            for (int w = 0; w < hills.wells; w++) {
+                if (!isAwakeIn(w, 0)) {
+                    set |= 1 << w;
+                }
+            }
+            return set;
         }
 
         int allWater() {
@@ -906,13 +898,13 @@ public final class SnoringWells {
 
         private void turnTo(int w, int phase) {
             int round = hills.roundOf(w);
-            if (hills.hasWell(w) && round > 0) {
+            if (round >= 1 && w >= 0 && w < shift.length) {
                 shift[w] = Math.floorMod(phase - hour, round);
             }
         }
 
         void pourOut(int w, int n) {
-            if (hills.hasWell(w)) {
+            if (w >= 0 && w < water.length) {
                 water[w] -= n;
             }
         }
@@ -1045,6 +1037,7 @@ public final class SnoringWells {
 
     /** Reads the hills from the tape, up to the first fault. */
     private static final class Reader {
+        private static final int NOTHING = 0;
         private static final int NUMBER = 1;
         private static final int WORD = 2;
         private static final int SIGN = 3;
@@ -1056,10 +1049,11 @@ public final class SnoringWells {
         private static final int OUT_OF_BOUNDS = 3;
         private static final int TOO_MANY = 4;
 
+        int taped = 0;
         int faultKind = 0;
         int faultPlace = NONE;
         Hills draft;
-        private final byte[] text;
+        private final byte[] tape = new byte[TAPE_BYTES];
         private int length = 0;
         private int start = 0;
         private int end = 0;
@@ -1070,12 +1064,21 @@ public final class SnoringWells {
         private final int[] code = new int[TAPE_BYTES];
         private int coded = 0;
 
-        Reader(byte[] tape, Hills empty) {
-            text = tape;
+        Reader(Hills empty) {
             draft = empty;
         }
 
+        void append(int v) {
+            for (int shift = 24; shift >= 0; shift -= 8) {
+                if (taped >= 0 && taped < tape.length) {
+                    tape[taped] = (byte) (v >>> shift);
+                    taped++;
+                }
+            }
+        }
+
         boolean readText(int n) {
+            taped = 0;
             length = n;
             end = 0;
             faultKind = 0;
@@ -1230,14 +1233,14 @@ public final class SnoringWells {
 
         private boolean readUnit(int depth) {
             if (isWord("not")) {
-                if (!goIn(depth) || !readUnit(depth + 1)) {
+                if (!mayNest(depth) || !advance() || !readUnit(depth + 1)) {
                     return false;
                 }
                 emit(DENY);
                 return true;
             }
             if (isSign('[')) {
-                return goIn(depth) && readTruth(depth + 1) && expectSign(']');
+                return mayNest(depth) && advance() && readTruth(depth + 1) && expectSign(']');
             }
             if (!readSum(depth)) {
                 return false;
@@ -1282,7 +1285,7 @@ public final class SnoringWells {
 
         private boolean readAtom(int depth) {
             if (isSign('(')) {
-                return goIn(depth) && readSum(depth + 1) && expectSign(')');
+                return mayNest(depth) && advance() && readSum(depth + 1) && expectSign(')');
             }
             int atom = kind == NUMBER ? number : nameHere();
             if (atom < 0) {
@@ -1292,9 +1295,8 @@ public final class SnoringWells {
             return advance();
         }
 
-        /** Steps over a sign that holds others within it, if it is not one too deep. */
-        private boolean goIn(int depth) {
-            return depth < MAX_NEST ? advance() : refuse(TOO_MANY);
+        private boolean mayNest(int depth) {
+            return depth < MAX_NEST || refuse(TOO_MANY);
         }
 
         private int comparisonHere() {
@@ -1397,64 +1399,62 @@ public final class SnoringWells {
                 start++;
             }
             end = start;
-            int first = byteAt(start);
-            if (first == NONE) {
-                kind = END;
-                return true;
-            }
-            if (isDigit(first)) {
-                return takeNumber();
-            }
-            if (isLetter(first)) {
-                takeWord();
-                return true;
-            }
-            kind = SIGN;
-            end = start + 1;
-            return ";+-*()[]=<>".indexOf((char) first) >= 0 || refuse(NO_TOKEN);
-        }
-
-        private boolean takeNumber() {
-            kind = NUMBER;
+            kind = kindOf(byteAt(start));
             number = 0;
-            for (int i = 0; i <= MAX_DIGITS && isDigit(byteAt(end)); i++) {
-                number = number * 10 + byteAt(end) - '0';
+            int longest = kind == WORD ? TAPE_BYTES : kind == NUMBER ? MAX_DIGITS + 1 : 1;
+            for (int i = 0; i < longest && kind != END && kindOf(byteAt(end)) == kind; i++) {
+                number = kind == NUMBER ? number * 10 + byteAt(end) - '0' : 0;
                 end++;
             }
-            return end - start <= MAX_DIGITS || refuse(NO_TOKEN);
-        }
-
-        private void takeWord() {
-            kind = WORD;
-            for (int i = 0; i < TAPE_BYTES && isLetter(byteAt(end)); i++) {
-                end++;
-            }
+            boolean tooLong = kind == NUMBER && end - start > MAX_DIGITS;
+            return kind == NOTHING || tooLong ? refuse(NO_TOKEN) : true;
         }
 
         private int byteAt(int place) {
-            return place >= 0 && place < length && place < text.length ? text[place] & 255 : NONE;
+            return place >= 0 && place < length && place < tape.length ? tape[place] & 255 : NONE;
         }
 
         private static boolean isBlank(int c) {
             return c == 10 || c == 32;
         }
 
-        private static boolean isDigit(int c) {
-            return c >= '0' && c <= '9';
-        }
-
-        private static boolean isLetter(int c) {
-            return c >= 'a' && c <= 'z';
+        private static int kindOf(int c) {
+            if (c >= 'a' && c <= 'z') {
+                return WORD;
+            }
+            if (c >= '0' && c <= '9') {
+                return NUMBER;
+            }
+            switch (c) {
+                case NONE:
+                    return END;
+                case ';':
+                case '+':
+                case '-':
+                case '*':
+                case '(':
+                case ')':
+                case '[':
+                case ']':
+                case '=':
+                case '<':
+                case '>':
+                    return SIGN;
+                default:
+                    return NOTHING;
+            }
         }
     }
 
-    /** Who is woken by whom, on the land that over() was told of, as it was then. */
+    /**
+     * Who is woken by whom, on the land that lookAt() was told of, as it was then. What goes by yawns
+     * wants over(): it works out once whom each sleeper's yawn would wake.
+     */
     private static final class Noise {
         private static final int STACK = 64;
 
         private Land land;
         private int asleep = 0;
-        private int known = 0;
         private final int[] yawned = new int[MAX_WELLS];
         private final int[] reach = new int[MAX_WELLS];
         private final int[] names = new int[NAME_COUNT];
@@ -1464,10 +1464,17 @@ public final class SnoringWells {
             land = first;
         }
 
+        void lookAt(Land told) {
+            land = told;
+            asleep = told.asleepBits();
+        }
+
         void over(Land told) {
             land = told;
             asleep = told.asleepBits();
-            known = 0;
+            for (int w = 0; w < yawned.length; w++) {
+                yawned[w] = has(asleep, w) ? wokenAtOnce(w, 0) : 0;
+            }
         }
 
         int wokenAtOnce(int a, int n) {
@@ -1575,10 +1582,6 @@ public final class SnoringWells {
             int all = 0;
             for (int w = 0; w < yawned.length; w++) {
                 if (has(set, w)) {
-                    if (!has(known, w)) {
-                        yawned[w] = wokenAtOnce(w, 0);
-                        known |= 1 << w;
-                    }
                     all |= yawned[w];
                 }
             }
@@ -1586,10 +1589,6 @@ public final class SnoringWells {
         }
 
         private boolean lawHolds(int a, int b, int n) {
-            int[] law = land.hills.law;
-            if (law.length == 0) {
-                return false;
-            }
             names[DEEP_A] = land.hills.deepOf(a);
             names[DEEP_B] = land.hills.deepOf(b);
             names[WATER_A] = land.waterOf(a);
@@ -1598,64 +1597,57 @@ public final class SnoringWells {
             names[HOUR_OF_DAY] = land.hour % 24;
             names[PHASE_B] = land.phaseOf(b);
             names[MANY_A] = Integer.bitCount(land.hills.besideOf(a));
+            int[] law = land.hills.law;
             int top = 0;
             for (int i = 0; i < law.length; i++) {
-                top = workOut(law[i], top);
+                int step = law[i];
+                if (step < ADD && top < stack.length) {
+                    stack[top] = step < NAMES ? step : valueOf(step - NAMES);
+                    top++;
+                } else if (step == DENY && top >= 1) {
+                    stack[top - 1] = 1 - stack[top - 1];
+                } else if (top >= 2) {
+                    stack[top - 2] = joinTwo(step, stack[top - 2], stack[top - 1]);
+                    top--;
+                }
             }
-            return stack[0] != 0;
+            return top >= 1 && stack[0] != 0;
         }
 
-        /** Does one step of a law on the stack: how high it is then. */
-        private int workOut(int step, int top) {
-            if (step < ADD) {
-                return push(step < NAMES ? step : nameValue(step - NAMES), top);
-            }
-            if (step == DENY && top >= 1 && top <= STACK) {
-                stack[top - 1] = 1 - stack[top - 1];
-                return top;
-            }
-            if (top < 2 || top > STACK) {
-                return top;
-            }
-            stack[top - 2] = joinTwo(step, stack[top - 2], stack[top - 1]);
-            return top - 1;
-        }
-
-        private int push(int v, int top) {
-            if (top < 0 || top >= STACK) {
-                return top;
-            }
-            stack[top] = v;
-            return top + 1;
-        }
-
-        private int nameValue(int name) {
+        private int valueOf(int name) {
             return name >= 0 && name < names.length ? names[name] : 0;
         }
 
-        private static int joinTwo(int step, int x, int y) {
+        /** All but the reckonings answer 0 or 1, so that keeping within bounds leaves them alone. */
+        private static int joinTwo(int step, long x, long y) {
+            long v;
             switch (step) {
                 case ADD:
-                    return keep((long) x + y);
+                    v = x + y;
+                    break;
                 case SUBTRACT:
-                    return keep((long) x - y);
+                    v = x - y;
+                    break;
                 case MULTIPLY:
-                    return keep((long) x * y);
+                    v = x * y;
+                    break;
                 case EQUAL:
-                    return x == y ? 1 : 0;
+                    v = x == y ? 1 : 0;
+                    break;
                 case BELOW:
-                    return x < y ? 1 : 0;
+                    v = x < y ? 1 : 0;
+                    break;
                 case ABOVE:
-                    return x > y ? 1 : 0;
+                    v = x > y ? 1 : 0;
+                    break;
                 case BOTH_HOLD:
-                    return x & y;
+                    v = x & y;
+                    break;
                 default:
-                    return x | y;
+                    v = x | y;
+                    break;
             }
-        }
-
-        private static int keep(long v) {
-            return (int) Math.max(-MOST, Math.min(MOST, v));
+            return (int) (v > MOST ? MOST : v < -MOST ? -MOST : v);
         }
     }
 
@@ -1930,7 +1922,7 @@ public final class SnoringWells {
             }
             ahead.become(now);
             for (int t = 0; t <= SOON; t++) {
-                noise.over(ahead);
+                noise.lookAt(ahead);
                 for (int h = 0; h < quiet.length && h < now.hills.houses; h++) {
                     if (quietWellNow(h) != NONE) {
                         quiet[h] |= 1L << t;
