@@ -1179,6 +1179,18 @@ public final class ModelTest {
             }
         }
 
+        /** An image with deeds in it, other deeds in their stead, and back. */
+        boolean imagePlay() {
+            int i = d(3);
+            if (!both(48, 0, i)) return false;
+            if (m.past.size() > 0 && !both(12, 0, 1 + d(m.past.size()))) return false;
+            int many = d(12);
+            for (int k = 0; k < many; k++) if (!deedCall()) return false;
+            if (!both(49, 0, i)) return false;
+            while (m.past.size() > 0) if (!look() || !both(12, 0, 1)) return false;
+            return look();
+        }
+
         void go() {
             boolean good = chance(3) ? true : feedText(text());
             while (good && left > 0) {
@@ -1186,6 +1198,7 @@ public final class ModelTest {
                 if (k < 3) good = feedText(chance(60) ? spoiled(text()) : text());
                 else if (k < 4) good = both(1, 0, d(40) - 5);
                 else if (k < 5) good = both(0, 0, dice.nextInt(), 0, 0, 0, 0);
+                else if (k < 6 && chance(40)) good = imagePlay();
                 else if (k < 10) good = fillTray();
                 else if (k < 45) good = deedCall();
                 else if (k < 48) good = look();
