@@ -1160,13 +1160,14 @@ public final class PromisesTest {
         SnoringWells d = of(RING);
         for (int i = 0; i < 10; i++) d.hours(1);
         d.image(1);
-        d.undo(10);
+        read(d, VALLEY);
         for (int i = 0; i < 10; i++) d.thunder();
         d.restore(1);
         for (int i = 9; i >= 0; i--) {
             is("deeds of an image, left", d.undo(1), i);
             is("deeds of an image, hour", d.count(3), i);
             is("deeds of an image, sour", d.count(5), 0);
+            is("deeds of an image, wells", d.count(1), 5);
         }
         fails("none was made", STATE, () -> x.restore(1));
         fails("no such", NOSUCH, () -> x.restore(3));
