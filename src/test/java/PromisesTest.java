@@ -753,6 +753,8 @@ public final class PromisesTest {
         is("itself asleep", r.shield(1, 1, 1, 1), 0);
         SnoringWells line = of("well every 2 awake 1;" + "well every 2 awake 1 shift 1;".repeat(3) + "beside 0 2;beside 2 1;beside 1 3;wakes 1=1;");
         is("of like ones the least set", line.shield(0, 5, 3, 1), 2);
+        SnoringWells back = of("well every 2 awake 1 shift 1;well every 2 awake 1 shift 1;well every 2 awake 1;beside 2 0;beside 0 1;wakes 1=1;");
+        is("well 0 is a shield", back.shield(2, 0, 1, 1), 1);
         fails("n", ARGUMENT, () -> r.shield(0, 100, 1, 0));
         fails("what", ARGUMENT, () -> r.shield(0, 1, 1, 2));
         fails("no such a", NOSUCH, () -> r.shield(5, 100, 1, 0));
