@@ -23,6 +23,8 @@ public final class SnoringWells {
     private static final int NOT_FIT = 3;
     private static final int TOO_LITTLE = 4;
 
+    private static final int NO_PLAN = -2;
+
     private static final int TOLD_LULL = 2000;
     private static final int TOLD_COIN = 2100;
     private static final int TOLD_THUNDER = 3000;
@@ -418,14 +420,14 @@ public final class SnoringWells {
         if (what != 0) {
             needWithin(what, 10, 15);
         }
-        int h = what == 0 ? 0 : what - 10;
-        if (!page.now.hills.hasHouse(h)) {
-            return NONE;
-        }
         plans.lookAhead(page.now);
         int last = plans.soonestEnd();
         if (last < 0) {
-            return -2;
+            return NO_PLAN;
+        }
+        int h = what == 0 ? 0 : what - 10;
+        if (!page.now.hills.hasHouse(h)) {
+            return NONE;
         }
         return what == 0 ? last : plans.hourInPlan(h, last);
     }

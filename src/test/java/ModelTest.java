@@ -676,7 +676,6 @@ public final class ModelTest {
         int plan(int what) {
             need(what == 0 || what >= 10 && what <= 15);
             int k = now.c.houses.size();
-            if (what == 0 ? k == 0 : what - 10 >= k) return -1;
             long[] all = open(40);
             int last = 0;
             long[] open = null;
@@ -686,7 +685,8 @@ public final class ModelTest {
                 if (matched(open) == k) break;
             }
             if (last > 40) return -2;
-            if (what == 0) return last;
+            if (what == 0) return k == 0 ? -1 : last;
+            if (what - 10 >= k) return -1;
             for (int h = 0; h < k; h++) {
                 for (int t = 0; t <= last; t++) {
                     if ((open[h] >> t & 1) == 0) continue;

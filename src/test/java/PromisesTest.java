@@ -349,6 +349,12 @@ public final class PromisesTest {
         is("without a law", z.coin(1), 0);
         is("woken", z.awake(), 2);
         is("phase", z.well(1, 5), 0);
+        z.undo(1);
+        z.thunder();
+        z.lull(1);
+        is("asleep and sour still", z.count(5), 2);
+        is("a coin in a sour sleeper", z.coin(1), 0);
+        is("it is woken, and sour as it was", z.well(1, 6) + z.well(1, 7), 2);
     }
 
     static void p12() {
@@ -858,7 +864,9 @@ public final class PromisesTest {
         SnoringWells none = of("well every 2 awake 2;house 99 from 0;house 1 from 0;");
         is("none", none.plan(0), -2);
         is("none for one", none.plan(11), -2);
-        is("none, and no such one", none.plan(12), -1);
+        is("none, and no such one", none.plan(12), -2);
+        is("none, and no such one, the last", none.plan(15), -2);
+        fails("none, another what", ARGUMENT, () -> none.plan(16));
         SnoringWells six = of("well every 2 awake 2;" + "house 1 from 0;".repeat(6));
         for (int h = 0; h < 6; h++) is("one behind the other " + h, six.plan(10 + h), h);
         is("six", six.plan(0), 5);
