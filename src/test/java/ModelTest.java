@@ -1013,6 +1013,7 @@ public final class ModelTest {
             if (chance(10)) rest.add("wakes " + truth(0));
         }
         if (chance(50)) rest.add("hour " + d(1000));
+        if (chance(10)) rest.add("hour " + d(1000));
         Collections.shuffle(rest, dice);
         lines.addAll(rest);
         StringBuilder s = new StringBuilder();
