@@ -1,77 +1,7 @@
-import java.nio.ByteBuffer;
-import java.nio.charset.StandardCharsets;
 import java.util.Arrays;
-import java.util.NoSuchElementException;
 
 /** For each promise of the document: ordinary inputs, the edges that it names, and wrong inputs, with answers worked out by hand. */
-public final class PromisesTest {
-    static int wrong = 0;
-    static int checks = 0;
-    static String promise = "";
-
-    interface Call { Object now(); }
-    interface Silent { void now(); }
-
-    static final Class<?> NOSUCH = NoSuchElementException.class;
-    static final Class<?> STATE = IllegalStateException.class;
-    static final Class<?> ARGUMENT = IllegalArgumentException.class;
-    static final Class<?> INDEX = IndexOutOfBoundsException.class;
-
-    static void is(String what, long got, long due) {
-        checks++;
-        if (got != due) {
-            wrong++;
-            System.out.println(promise + ": " + what + " is " + got + ", due is " + due);
-        }
-    }
-
-    static void is(String what, boolean got, boolean due) { is(what, got ? 1 : 0, due ? 1 : 0); }
-
-    static void fails(String what, Class<?> due, Silent call) {
-        checks++;
-        try {
-            call.now();
-        } catch (RuntimeException e) {
-            if (e.getClass() == due) return;
-            wrong++;
-            System.out.println(promise + ": " + what + " throws " + e.getClass().getSimpleName() + ", due is " + due.getSimpleName());
-            return;
-        }
-        wrong++;
-        System.out.println(promise + ": " + what + " throws nothing, due is " + due.getSimpleName());
-    }
-
-    static void feed(SnoringWells x, String text) {
-        byte[] bytes = text.getBytes(StandardCharsets.ISO_8859_1);
-        ByteBuffer b = ByteBuffer.wrap(Arrays.copyOf(bytes, (bytes.length + 19) / 20 * 20));
-        while (b.hasRemaining()) x.feed(b.getInt(), b.getInt(), b.getInt(), b.getInt(), b.getInt());
-    }
-
-    static int read(SnoringWells x, String text) {
-        feed(x, text);
-        return x.hills(text.length());
-    }
-
-    static SnoringWells of(String text) {
-        SnoringWells x = new SnoringWells();
-        int lines = read(x, text);
-        if (lines < 0) throw new IllegalStateException("the test's own text has fault " + lines + ": " + text);
-        return x;
-    }
-
-    static void row(SnoringWells x, int tray, int sort, long... v) {
-        x.tray(tray, sort, v.length);
-        for (int i = 0; i < v.length; i++) x.write(tray, i, v[i]);
-    }
-
-    /** 0 is awake in hours 0, 1 of 4; 1 in hour 1 of 3; 2 in hours 3, 4, 5 of 6. */
-    static final String VALLEY = "well every 4 awake 2;well every 3 awake 1 shift 2 deep 5 water 2;well every 6 awake 3 shift 3;"
-        + "beside 0 1;beside 1 2;house 3 from 0;house 2 from 1 2;wakes n>2 or wa>9 and n=0;hour 0;";
-
-    /** 0 awake, 1 to 4 asleep in a ring: 0-1-2-3-0 and 4 beside 2 alone; any noise wakes. */
-    static final String RING = "well every 4 awake 2;well every 4 awake 2 shift 2;well every 4 awake 2 shift 2;well every 4 awake 2 shift 2;"
-        + "well every 4 awake 2 shift 2;beside 0 1;beside 1 2;beside 2 3;beside 3 0;beside 2 4;wakes 1=1;";
-
+public final class PromisesTest extends Hand {
     static void p1() {
         SnoringWells x = new SnoringWells();
         is("wells", x.count(1), 0);
@@ -142,16 +72,6 @@ public final class PromisesTest {
         is("the later law", x.chain(0, 1), 2);
         is("well by well", x.count(1), 2);
     }
-
-    static void fault(String text, int kind, int place) {
-        SnoringWells x = new SnoringWells();
-        int got = read(x, text);
-        is("'" + text + "'", got, -10 - kind);
-        is("fault of '" + text + "'", x.fault(0), kind);
-        is("place in '" + text + "'", x.fault(1), place);
-    }
-
-    static final String W = "well every 4 awake 1;"; // 21 bytes
 
     static void p4() {
         SnoringWells x = new SnoringWells();
@@ -520,20 +440,6 @@ public final class PromisesTest {
         fails("no such tray", NOSUCH, () -> x.perform(4));
     }
 
-    /** A seed whose first numbers modulo 6 are as told. */
-    static int seedFor(int... kinds) {
-        for (int seed = 0; seed < 10_000_000; seed++) {
-            int x = seed;
-            boolean good = true;
-            for (int k : kinds) {
-                x = 1103515245 * x + 12345;
-                good &= (x >>> 16) % 6 == k;
-            }
-            if (good) return seed;
-        }
-        throw new IllegalStateException("no seed");
-    }
-
     static void p17() {
         SnoringWells none = new SnoringWells();
         int seed = seedFor(2, 3, 0, 4, 1, 5);
@@ -574,9 +480,6 @@ public final class PromisesTest {
         fails("31 times", ARGUMENT, () -> v.year(1, 31));
         fails("below 0", ARGUMENT, () -> v.year(1, -1));
     }
-
-    static final String ALL_ROUNDS = "well every 8 awake 1;well every 9 awake 1;well every 5 awake 1;well every 7 awake 1;well every 11 awake 1;"
-        + "well every 2 awake 1;well every 3 awake 1;well every 10 awake 1;well every 12 awake 1;well every 6 awake 1;";
 
     static void p18() {
         is("without wells", new SnoringWells().joint(), 1);
@@ -654,10 +557,6 @@ public final class PromisesTest {
         fails("what below 0", ARGUMENT, () -> x.stillest(-1));
     }
 
-    static int woken(String law) {
-        return of("well every 4 awake 2 deep 30 water 7;well every 5 awake 2 shift 3 deep 40 water 9;well every 3 awake 3;beside 0 1;beside 0 2;hour 25;wakes " + law + ";").chain(0, 6);
-    }
-
     static void p24() {
         SnoringWells x = of(VALLEY);
         is("3", x.chain(0, 3), 2);
@@ -677,10 +576,10 @@ public final class PromisesTest {
             "999*999*999=100*100*100", "999*999+999*999=100*100*100", "0-999*999-999*999=0-100*100*100", "(0-999)*999*999=0-100*100*100",
             "999*999+999*999-999*999=2*999+1", "1=2 or 1=1 and 2=2", "not 1=2 and 1=1", "not [1=1 and 1=2]",
             "1=1 or 1=1 and 1=2", "not not 1=1", "1<2", "2>1", "not 2<1", "[1=2 or 1=1] and 2=2", "2-3*2=0-4"}) {
-            is(law, woken(law), 2);
+            is(law, holds(law), true);
         }
         for (String law : new String[] {"da=10", "hour=25", "many=1", "1<1", "1>1", "not 1=1", "[1=1 or 1=1] and 1=2", "1=1 and 1=2 or 1=2", "999*999=100*100*100"}) {
-            is(law, woken(law), 0);
+            is(law, holds(law), false);
         }
     }
 
