@@ -184,6 +184,21 @@ public final class EdgesTest extends Sentences {
         }
     }
 
+    @Says(promise = 5, value = "Of a WELL, what 0: ROUND, 1: how long it is awake, 2: shift, 3: DEEP, 4: WATER, 5: PHASE")
+    static void wellsNumbers() {
+        SnoringWells x = of("well every 2 awake 1 deep 1 water 0;well every 12 awake 12 shift 11 deep 99;hour 999;");
+        int[] least = {2, 1, 0, 1, 0, 1};
+        int[] most = {12, 12, 11, 99, 99, 2};
+        for (int what = 0; what < 6; what++) {
+            is("least " + what, x.well(0, what), least[what]);
+            is("most " + what, x.well(1, what), most[what]);
+        }
+        x.hours(1);
+        is("phase turns", x.well(0, 5), 0);
+        x.hours(8);
+        is("phase at its last", x.well(1, 5), 11);
+    }
+
     @Says(promise = 5, value = "8: WELLS beside it, as bits.")
     static void besideBits() {
         SnoringWells x = of(ten(""));
@@ -242,6 +257,16 @@ public final class EdgesTest extends Sentences {
     static void wellsWhat() {
         SnoringWells x = of(VALLEY);
         refused("what", ARGUMENT, 0, 8, what -> x.well(2, what));
+    }
+
+    @Says(promise = 6, value = "Of a HOUSE, what 0: what it NEEDS, 1: its WELLS, as bits.")
+    static void housesNumbers() {
+        SnoringWells x = of(W.repeat(10) + "house 1 from 0;house 99 from 9;house 5 from 9 8 7 6 5 4 3 2 1 0 0;");
+        is("the least need", x.house(0, 0), 1);
+        is("the most", x.house(1, 0), 99);
+        is("the first well", x.house(0, 1), 1);
+        is("the last well", x.house(1, 1), 512);
+        is("all wells", x.house(2, 1), 1023);
     }
 
     @Says(promise = 6, value = "NoSuchElementException: no such HOUSE (as everywhere)")
@@ -431,6 +456,25 @@ public final class EdgesTest extends Sentences {
         is("judged, not done", state(x), was);
     }
 
+    @Says(promise = 15, value = "TOLD DEEDS, judged as if done")
+    static void judgedAsIfDone() {
+        SnoringWells x = of(RING);
+        SnoringWells twin = of(RING);
+        row(x, 0, 1, 1, 2000, 3000, -1, 101);
+        for (SnoringWells y : new SnoringWells[] {x, twin}) {
+            y.hours(4);
+            y.image(0);
+            y.hours(4);
+        }
+        is("1 is sour by the draw", x.judge(0, 1), 3);
+        is("its place", x.judge(0, 0), 4);
+        is("0 is woken by thunder", x.judge(0, 3), 31);
+        is("nothing is done", past(x), past(twin));
+        x.restore(0);
+        twin.restore(0);
+        is("images are as they were", past(x), past(twin));
+    }
+
     @Says(promise = 15, value = "NoSuchElementException: no such TRAY (as below); IllegalStateException: it is MISSING (as below); IllegalArgumentException: another what.")
     static void judgeRefused() {
         SnoringWells x = of(VALLEY);
@@ -510,6 +554,24 @@ public final class EdgesTest extends Sentences {
         x.hours(7);
         x.thunder();
         is("the same at all times", x.joint(), 27720);
+        for (String text : new String[] {"well every 7 awake 1;", "well every 11 awake 1;", "well every 8 awake 1;", ""}) {
+            read(x, text);
+            is("of other hills: " + text, x.joint(), of(text).joint());
+            is("none awake then: " + text, x.withAwake(0), of(text).withAwake(0));
+        }
+    }
+
+    @Says(promise = 19, value = "TOGETHER (awake: AWAKE, else ASLEEP)")
+    static void togetherBoth() {
+        SnoringWells x = of("well every 12 awake 11;well every 12 awake 1 shift 1;");
+        is("both awake", x.together(3, true), -1);
+        is("0 awake", x.together(1, true), 0);
+        is("0 asleep", x.together(1, false), 11);
+        is("1 awake", x.together(2, true), 11);
+        is("1 asleep", x.together(2, false), 0);
+        x.hours(11);
+        is("1 awake now", x.together(2, true), 0);
+        is("0 awake next", x.together(1, true), 1);
     }
 
     @Says(promise = 19, value = "NONE: never; 0 for an empty set.")
@@ -788,6 +850,10 @@ public final class EdgesTest extends Sentences {
         is("five", five.chorus(99, 0), 5);
         is("which five", five.chorus(99, 1), 31);
         is("too low", five.chorus(98, 0), -1);
+        for (int alone = 0; alone < 3; alone++) {
+            String wells = "well every 2 awake 1;".repeat(alone) + "well every 2 awake 1 shift 1;" + "well every 2 awake 1;".repeat(2 - alone);
+            is("one that none is beside, " + alone, of(wells + "wakes 1=1;").chorus(0, 0), -1);
+        }
         SnoringWells like = of("well every 2 awake 1;".repeat(2) + "well every 2 awake 1 shift 1;beside 0 2;beside 1 2;wakes 1=1;");
         is("of like ones the least set", like.chorus(0, 1), 1);
         SnoringWells fewest = of("well every 2 awake 1;".repeat(3) + "well every 2 awake 1 shift 1;".repeat(2) + "beside 0 3;beside 1 4;beside 2 3;beside 2 4;wakes n>0;");
@@ -861,6 +927,15 @@ public final class EdgesTest extends Sentences {
         is("all 41", x.quietHours(0), 0x1ffffffffffL);
         is("none", x.quietHours(1), 0);
         is("0, 8, 16, 24, 32, 40", x.quietHours(2), 0x10101010101L);
+        x.draw(0, 1);
+        is("none behind a draw", x.quietHours(0), 0);
+        is("dry then", x.dry(), 3);
+        is("no plan then", x.plan(0), -2);
+        is("one is served", x.served(40), 1);
+        x.undo(1);
+        is("all 41 once more", x.quietHours(0), 0x1ffffffffffL);
+        SnoringWells loud = of("well every 4 awake 4;well every 4 awake 3;beside 0 1;house 1 from 0;wakes n>0;");
+        is("loud in hours 3, 7, .. 39", loud.quietHours(0), 0x17777777777L);
     }
 
     @Says(promise = 35, value = "From which WELL in n HOURS (0 to 40); NONE: it is no QUIET one.")
@@ -872,6 +947,11 @@ public final class EdgesTest extends Sentences {
         is("40", x.quietWell(0, 40), 0);
         is("none", x.quietWell(1, 0), -1);
         is("none in 40", x.quietWell(1, 40), -1);
+        SnoringWells loud = of("well every 4 awake 4;well every 4 awake 3;well every 4 awake 4;beside 0 1;house 1 from 0;house 1 from 0 2;wakes n>0;");
+        for (int n = 0; n <= 40; n++) {
+            is("loud in each fourth hour, " + n, loud.quietWell(0, n), n % 4 == 3 ? -1 : 0);
+            is("by another one then, " + n, loud.quietWell(1, n), n % 4 == 3 ? 2 : 0);
+        }
     }
 
     @Says(promise = 35, value = "IllegalArgumentException: n.")
@@ -1226,6 +1306,19 @@ public final class EdgesTest extends Sentences {
             refused("place of " + many, INDEX, 0, many - 1, place -> x.write(1, place, 1));
         }
         for (int t : new int[] {-1, 4, Integer.MIN_VALUE, Integer.MAX_VALUE}) fails("tray " + t, NOSUCH, () -> x.write(t, 0, 1));
+    }
+
+    @Says(promise = 49, value = "Whether a WELL is AWAKE (1, 0) in the HOURS from now on")
+    static void copyHours() {
+        for (int h = 0; h < 7; h++) {
+            SnoringWells x = of("well every 7 awake 3 shift 2;hour " + h + ";");
+            x.tray(0, 0, 24);
+            x.copy(0, 0);
+            row(x, 1, 0, filled(24, 0));
+            for (int i = 0; i < 24; i++) if ((h + i + 2) % 7 < 3) x.write(1, i, 1);
+            is("as written by hand from hour " + h, x.roundAt(0, 0), x.roundAt(1, 0));
+            is("one alone fits", x.seen(0) * 10 + x.seen(1), 11);
+        }
     }
 
     @Says(promise = 49, value = "comes into a TRAY from its first place on, as many as it has places: how many.")

@@ -14,7 +14,7 @@ import java.util.List;
 
 /** Runs tests of which each stands for one sentence of the document: its remark has the document's words, and these must be there. */
 class Sentences extends Hand {
-    /** The words of a promise; of "Terms" if no promise is told. */
+    /** The words of a promise; of what stands ahead of the promises ("What it is", "Terms") if none is told. */
     @Retention(RetentionPolicy.RUNTIME)
     @Target(ElementType.METHOD)
     @interface Says {
@@ -35,12 +35,12 @@ class Sentences extends Hand {
         return from < 0 ? "" : plain(s.substring(from, to < 0 ? s.length() : to));
     }
 
-    /** What the document says of each promise, at 0 its "Terms"; nothing without the document. */
+    /** What the document says of each promise, at 0 what it says ahead of them; nothing without the document. */
     private static List<String> sections() throws IOException {
         List<String> all = new ArrayList<>();
         if (!Files.exists(DOCUMENT)) return all;
         String s = Files.readString(DOCUMENT);
-        all.add(between(s, "## Terms", "## Promise 1:"));
+        all.add(between(s, "## What it is", "## Promise 1:"));
         for (int p = 1; p <= 52; p++) all.add(between(s, "## Promise " + p + ":", "\n## "));
         return all;
     }

@@ -36,7 +36,28 @@ public final class TermsTest extends Sentences {
         is("place of " + v, x.judge(3, 0), why == 0 ? -1 : 0);
     }
 
-    // ---- ==== 1: the text
+    // ---- what it is, ==== 1: the text
+
+    @Says("An object is used for at most 512 calls after it has been made")
+    static void calls512() {
+        SnoringWells x = new SnoringWells();
+        for (int i = 0; i < 511; i++) x.hours(99);
+        is("the last call", x.count(3), 511 * 99);
+        SnoringWells y = of(VALLEY);
+        int calls = (VALLEY.length() + 19) / 20 + 1;
+        y.image(0);
+        for (calls++; calls < 511; calls += 2) {
+            y.restore(0);
+            y.year(calls, 30);
+        }
+        y.restore(0);
+        is("as at first", y.awake(), 1);
+    }
+
+    @Says("NONE = -1: There is none.")
+    static void none() {
+        is("NONE", SnoringWells.NONE, -1);
+    }
 
     @Says("THE HILLS are a TEXT of at most 900 bytes")
     static void textOf900() {
@@ -142,6 +163,15 @@ public final class TermsTest extends Sentences {
         is("one below", holds("4<5"), true);
         is("one above", holds("6>5"), true);
         is("one off", holds("4=5"), false);
+        for (String yes : new String[] {"1=1", "1<2", "2>1"}) {
+            for (String other : new String[] {"3=3", "3<4", "4>3"}) is(yes + " and " + other, holds(yes + " and " + other), true);
+            for (String no : new String[] {"1=2", "2<1", "1>2"}) {
+                is(yes + " or " + no, holds(no + " or " + yes), true);
+                is(yes + " and " + no, holds(yes + " and " + no), false);
+                is("not " + no, holds("not " + no + " and not not " + yes), true);
+            }
+            is("not " + yes, holds("not " + yes), false);
+        }
         fault("wakes 1;", 2, 7);
         fault("wakes 1=;", 2, 8);
         fault("wakes =1;", 2, 6);
@@ -516,6 +546,28 @@ public final class TermsTest extends Sentences {
         is("phases ahead of the coin", z.coin(0), 2);
     }
 
+    @Says("In the law: da, db: how DEEP, wa, wb: WATER")
+    static void lawsOfDeepAndWater() {
+        String wells = "well every 2 awake 2 deep 99 water 0;well every 12 awake 1 shift 1 deep 1 water 1;well every 12 awake 1 shift 1 deep 98 water 97;beside 0 1;beside 1 2;wakes ";
+        is("da 99", of(wells + "da=99;").chain(0, 1), 2);
+        is("db 1", of(wells + "db=1;").chain(0, 1), 2);
+        is("wa 0", of(wells + "wa=0;").chain(0, 1), 2);
+        is("wb 1", of(wells + "wb=1;").chain(0, 1), 2);
+        is("of the one that yawns, then", of(wells + "da=99 or da=1 and wa=1;").chain(0, 1), 6);
+        is("of the one beside it, then", of(wells + "db=1 or db=98 and wb=97;").chain(0, 1), 6);
+    }
+
+    @Says("phase: that of b")
+    static void phaseOfTheSleeper() {
+        for (int phase = 1; phase < 12; phase++) {
+            String two = "well every 12 awake 12 shift 5;well every 12 awake 1 shift " + phase + ";beside 0 1;wakes phase=";
+            is("phase " + phase, of(two + phase + ";").chain(0, 0), 2);
+            is("not one less than " + phase, of(two + (phase - 1) + ";").chain(0, 0), 0);
+            is("not one more than " + phase, of(two + (phase + 1) + ";").chain(0, 0), 0);
+        }
+        is("by the hour", of("well every 12 awake 12;well every 12 awake 1 shift 11;beside 0 1;wakes phase=2;hour 999;").chain(0, 0), 2);
+    }
+
     @Says("hour: HOUR modulo 24")
     static void hourOfTheDay() {
         int[] hours = {0, 23, 24, 25, 47, 48, 999};
@@ -600,6 +652,20 @@ public final class TermsTest extends Sentences {
         is("sour", y.draw(1, 1), -3);
         is("a noise of n", of(star(1).replace("n>0", "n=7")).draw(0, 7), 1);
         is("no noise of another n", of(star(1).replace("n>0", "n=7")).draw(0, 6), 0);
+    }
+
+    @Says("To LULL an AWAKE one.")
+    static void lullBounds() {
+        for (int h = 0; h < 5; h++) {
+            SnoringWells x = of("well every 5 awake 3;hour " + h + ";");
+            is("in hour " + h, x.lull(0), h < 3 ? 3 - h : -12);
+            is("asleep behind it, hour " + h, x.well(0, 6), 0);
+            is("a deed, hour " + h, x.count(7), h < 3 ? 1 : 0);
+        }
+        SnoringWells sour = of(star(2));
+        sour.thunder();
+        is("a sour one too", sour.lull(2), 2);
+        is("which stays sour", sour.well(2, 7), 1);
     }
 
     @Says("A COIN in an ASLEEP one: it is woken, a NOISE of 0 at it (it itself doesn't count to two).")
@@ -752,6 +818,16 @@ public final class TermsTest extends Sentences {
         row(x, 0, 1, 907);
         x.perform(0);
         is("7 from 9", x.well(9, 4), 92);
+        row(x, 0, 1, 99, 100 + 99, 800 + 1, 999 - 7);
+        is("edges", x.perform(0), 4);
+        is("99 from 0", x.well(0, 4), 0);
+        is("99 from 1", x.well(1, 4), 0);
+        is("1 from 8", x.well(8, 4), 98);
+        is("92 from 9", x.well(9, 4), 0);
+        SnoringWells last = of("well every 4 awake 2 deep 99;".repeat(10));
+        row(last, 0, 1, 999);
+        is("999 is one", last.perform(0), 1);
+        is("99 from 9", last.well(9, 4), 0);
         SnoringWells nine = of("well every 4 awake 2 deep 99;".repeat(9));
         told(nine, 899, 0);
         told(nine, 901, 1);
@@ -1000,6 +1076,24 @@ public final class TermsTest extends Sentences {
                 }
             }
         }
+    }
+
+    @Says("number modulo 6: 0, 1 an HOUR; 2, 3 from WELL number modulo WELLS 1 and number modulo 5 is drawn; 4 WELL number modulo WELLS is LULLED; 5 a COIN in WELL number modulo WELLS")
+    static void yearKinds() {
+        boolean[] drawn = new boolean[50];
+        for (int seed = 0; seed < 3000; seed++) {
+            int[] at = {seed};
+            int kind = number(at) % 6;
+            int w = number(at) % 10;
+            int n = 1 + number(at) % 5;
+            SnoringWells x = of((kind == 5 ? "well every 4 awake 2 shift 2;" : "well every 4 awake 2;").repeat(10));
+            is("one by seed " + seed, x.year(seed, 1), 1);
+            is("hour by seed " + seed, x.count(3), kind < 2 ? 1 : 0);
+            is("water by seed " + seed, x.well(w, 4), kind == 2 || kind == 3 ? 10 - n : 10);
+            is("awake by seed " + seed, x.awake(), kind == 4 ? 1023 - (1 << w) : kind == 5 ? 1 << w : 1023);
+            if (kind == 2 || kind == 3) drawn[w * 5 + n - 1] = true;
+        }
+        for (int i = 0; i < drawn.length; i++) is("1 to 5 from 0 to 9, " + i, drawn[i], true);
     }
 
     @Says("as in a TRAY, if it can be (without WELLS: HOURS alone, no more numbers)")
