@@ -77,6 +77,17 @@ public final class LanguageTest {
         int count(int)
         """;
 
+    /** The face as the document itself has it, in the form of FACE. */
+    static String documentsFace() throws java.io.IOException {
+        StringBuilder s = new StringBuilder();
+        Matcher m = Pattern.compile("public (\\w+ \\w+)\\((.*?)\\)(?: throws (.*))?;").matcher(Files.readString(Path.of("..", "shared", "DOC.md")));
+        while (m.find()) {
+            s.append(m.group(1)).append("(").append(m.group(2).replaceAll(" \\w+(?=,|$)", "").replace(", ", ",")).append(")");
+            s.append(m.group(3) == null ? "" : " " + m.group(3).replace(",", "")).append("\n");
+        }
+        return s.toString();
+    }
+
     static String told(Method m) {
         StringBuilder s = new StringBuilder(m.getReturnType().getSimpleName() + " " + m.getName() + "(");
         s.append(String.join(",", Arrays.stream(m.getParameterTypes()).map(Class::getSimpleName).toList())).append(")");
@@ -141,6 +152,18 @@ public final class LanguageTest {
         due(!thrown.find(), "throws are new ones with a written text");
     }
 
+    /** Rule 11: some sixty lines a method; the source is set out so that a method's last line stands as far in as its first. */
+    static void lengths(Path file) throws java.io.IOException {
+        Matcher method = Pattern.compile("(?m)^( {4}| {8})(?!private static final class|\\s|/|\\*)[^=\n;]*\\) ?[^=\n;]*\\{\n(?s:.*?)\n\\1\\}$").matcher(Files.readString(file));
+        int methods = 0;
+        while (method.find()) {
+            methods++;
+            long lines = method.group().lines().count();
+            due(lines <= 60, lines + " lines: " + method.group().lines().findFirst().orElse(""));
+        }
+        due(methods > 150, "methods are found, not " + methods);
+    }
+
     static final String FULL = "well every 8 awake 3;well every 9 awake 3 shift 4;well every 5 awake 1 shift 2;well every 7 awake 1 shift 3;well every 11 awake 5;"
         + "beside 0 1;beside 1 2;beside 2 3;beside 3 4;beside 0 4;house 1 from 0 1;house 2 from 2 3;house 1 from 4;wakes n>3 or phase>2;";
 
@@ -181,8 +204,11 @@ public final class LanguageTest {
     }
 
     public static void main(String[] args) throws java.io.IOException {
+        Path file = Path.of(args.length > 0 ? args[0] : "src/main/java/SnoringWells.java");
+        due(FACE.equals(documentsFace()), "the face told here is the document's");
         face();
-        source(Path.of(args.length > 0 ? args[0] : "src/main/java/SnoringWells.java"));
+        source(file);
+        lengths(file);
         room();
         System.out.println(wrong == 0 ? "the face and the source are as due" : wrong + " are not as due");
         if (wrong != 0) System.exit(1);
